@@ -132,7 +132,8 @@ public final class ChairOld {
         if (piece == null || !isMark(mark) || !isKind(kind) || !isTime(time)) {
             return BAD;
         }
-        return laws.hundredths(mark, kind, time, piece);
+        piece.learn(laws, 1 << mark);
+        return piece.numberAt(mark, kind, time);
     }
 
     // ---- what it is
@@ -158,8 +159,7 @@ public final class ChairOld {
         if (piece == null || !isKind(kind)) {
             return BAD;
         }
-        long all = scale.weighFound(piece);
-        return scale.percentOf(kind, all);
+        return scale.percentFound(piece, kind);
     }
 
     public int likeliest(int part) {
@@ -564,18 +564,10 @@ public final class ChairOld {
         }
     }
 
-    private int percentTrue(Piece piece) {
-        if (piece == null) {
-            return 0;
-        }
-        long all = scale.weighFound(piece);
-        return scale.percentOf(TRUE_KIND, all);
-    }
-
     private int allTrue() {
         int whole = HUNDREDTHS;
         for (int i = 0; i < pieceCount; i++) {
-            whole = whole * percentTrue(pieceAt(i)) / HUNDREDTHS;
+            whole = whole * scale.percentFound(pieceAt(i), TRUE_KIND) / HUNDREDTHS;
         }
         return whole;
     }
@@ -587,7 +579,7 @@ public final class ChairOld {
         // With two parts hundredths of hundredths are ten thousandths; each further part makes them finer.
         long finer = 1;
         for (int i = 0; i < pieceCount; i++) {
-            long so = percentTrue(pieceAt(i));
+            long so = scale.percentFound(pieceAt(i), TRUE_KIND);
             long not = HUNDREDTHS - so;
             more = more * HUNDREDTHS + one * not;
             one = one * so + none * not;
@@ -624,8 +616,7 @@ public final class ChairOld {
     }
 
     private int beliefInMade(Piece piece, int marks) {
-        long all = scale.weigh(piece, ALL_MARKS, marks);
-        return scale.percentOf(TRUE_KIND, all);
+        return scale.percentOf(TRUE_KIND, scale.weigh(piece, ALL_MARKS, marks));
     }
 
     private int worthOf(Piece piece) {
@@ -683,23 +674,15 @@ public final class ChairOld {
         }
 
         void learn(Laws laws, int marks) {
-            for (int mark = 0; mark < MARKS; mark++) {
-                if (hasBit(marks & ~known, mark)) {
-                    learnMark(laws, mark);
+            int missing = marks & ~known;
+            for (int at = 0; at < numbers.length && missing != 0; at++) {
+                int mark = at / (KINDS * TIMES);
+                if (hasBit(missing, mark)) {
+                    int worth = laws.worth(mark, at / TIMES % KINDS, at % TIMES, wood, place);
+                    numbers[at] = Math.max(0, Math.min(HUNDREDTHS, worth));
                 }
             }
             known |= marks;
-        }
-
-        private void learnMark(Laws laws, int mark) {
-            for (int kind = 0; kind < KINDS; kind++) {
-                for (int time = 0; time < TIMES; time++) {
-                    int at = (mark * KINDS + kind) * TIMES + time;
-                    if (at >= 0 && at < numbers.length) {
-                        numbers[at] = laws.hundredths(mark, kind, time, this);
-                    }
-                }
-            }
         }
     }
 
@@ -751,6 +734,10 @@ public final class ChairOld {
         /** Only once the piece was weighed: that works out the numbers. */
         private long weightFound(Piece piece, int kind, int time) {
             return weight(piece, kind, time, piece.looked, piece.there);
+        }
+
+        int percentFound(Piece piece, int kind) {
+            return piece == null ? 0 : percentOf(kind, weighFound(piece));
         }
 
         int percentOf(int kind, long all) {
@@ -963,7 +950,6 @@ public final class ChairOld {
         private final int[] code = new int[MARKS * ROOM];
         private final int[] sizes = new int[MARKS];
         private final int[] stack = new int[ROOM];
-        private int top = 0;
 
         void set(int mark, int[] from, int size) {
             if (isMark(mark) && within(size, 0, ROOM) && size <= from.length) {
@@ -972,32 +958,42 @@ public final class ChairOld {
             }
         }
 
-        int hundredths(int mark, int kind, int time, Piece piece) {
+        int worth(int mark, int kind, int time, int wood, int place) {
             if (!isMark(mark) || sizes[mark] == 0) {
                 return WITHOUT_TEXT;
             }
-            return Math.max(0, Math.min(HUNDREDTHS, worth(mark, kind, time, piece)));
-        }
-
-        private int worth(int mark, int kind, int time, Piece piece) {
-            int start = mark * ROOM;
-            int end = Math.min(start + sizes[mark], code.length);
-            top = 0;
-            for (int at = start; at < end; at++) {
+            int end = Math.min(mark * ROOM + sizes[mark], code.length);
+            int top = 0;
+            for (int at = mark * ROOM; at < end; at++) {
                 int sign = code[at];
-                if (sign >= 0) {
-                    push(sign);
-                } else if (sign == -';') {
-                    return pop();
-                } else if (sign == -'?') {
-                    at = pop() == 0 ? endOfLine(at, end) : at;
-                } else if (isName(-sign)) {
-                    push(nameWorth(-sign, kind, time, piece));
-                } else {
-                    apply(-sign);
+                int right = within(top, 1, stack.length) ? stack[top - 1] : 0;
+                int left = within(top, 2, stack.length) ? stack[top - 2] : 0;
+                int used = 2;
+                int value = 0;
+                switch (sign) {
+                    case -';': return right;
+                    case -'?':
+                        at = right == 0 ? endOfLine(at, end) : at;
+                        top = 0;
+                        continue;
+                    case -'y': used = 0; value = time; break;
+                    case -'k': used = 0; value = kind; break;
+                    case -'w': used = 0; value = wood; break;
+                    case -'p': used = 0; value = place; break;
+                    case -'!': used = 1; value = right == 0 ? 1 : 0; break;
+                    case -Reader.NEGATE: used = 1; value = -right; break;
+                    default:
+                        used = sign >= 0 ? 0 : 2;
+                        value = sign >= 0 ? sign : joined(-sign, left, right);
+                }
+                top = Math.max(0, top - used);
+                if (top < stack.length) {
+                    stack[top] = value;
+                    top++;
                 }
             }
-            return pop();
+            // Nothing is left where no line counts.
+            return within(top, 1, stack.length) ? stack[top - 1] : 0;
         }
 
         private int endOfLine(int from, int end) {
@@ -1007,30 +1003,6 @@ public final class ChairOld {
                 }
             }
             return end;
-        }
-
-        private static boolean isName(int sign) {
-            return sign == 'y' || sign == 'k' || sign == 'w' || sign == 'p';
-        }
-
-        private static int nameWorth(int sign, int kind, int time, Piece piece) {
-            switch (sign) {
-                case 'y': return time;
-                case 'k': return kind;
-                case 'w': return piece.wood;
-                default: return piece.place;
-            }
-        }
-
-        private void apply(int sign) {
-            int right = pop();
-            if (sign == '!') {
-                push(right == 0 ? 1 : 0);
-            } else if (sign == Reader.NEGATE) {
-                push(-right);
-            } else {
-                push(joined(sign, pop(), right));
-            }
         }
 
         private static int joined(int sign, int left, int right) {
@@ -1046,22 +1018,6 @@ public final class ChairOld {
                 case '&': return left != 0 && right != 0 ? 1 : 0;
                 default: return left != 0 || right != 0 ? 1 : 0;
             }
-        }
-
-        private void push(int v) {
-            if (top >= 0 && top < stack.length) {
-                stack[top] = v;
-                top++;
-            }
-        }
-
-        /** An empty stack gives 0: so ends a law none of whose lines counts. */
-        private int pop() {
-            if (top <= 0 || top > stack.length) {
-                return 0;
-            }
-            top--;
-            return stack[top];
         }
     }
 
@@ -1136,7 +1092,7 @@ public final class ChairOld {
             }
             if (isDigit(first)) {
                 digits();
-            } else if (Laws.isName(first)) {
+            } else if (first == 'y' || first == 'k' || first == 'w' || first == 'p') {
                 emit(-first);
                 at++;
             } else if (open < MOST_OPEN && (first == '(' || first == '!' || first == '-')) {

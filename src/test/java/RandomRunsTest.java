@@ -1,0 +1,149 @@
+import java.lang.reflect.Method;
+import java.util.ArrayList;
+import java.util.Comparator;
+import java.util.List;
+import java.util.Random;
+
+/** Runs of up to 512 calls, drawn by fixed seeds, on ChairOld and on the plain model: like answers. */
+public final class RandomRunsTest {
+    private static final String[] LAWS = {
+        "k=0?90-y;k=3?y*3;40", "y<20&k<3?80;15+w", "k=4?70;y>19?5;60-p*3", "(k=1)*50+20", "0", "100", "50",
+        "k*20", "100-k*17", "y*3", "w*11-p", "k=w%6", "(k=0)*99+(k=1)*1", "y>9&y<15?99;1", "-5+!(y-7)*100",
+        "k=0?y*7%101;k=1?100-y;y/3*k", "9999*9999*9999", "5%0+7/0+w*p", "!!!---y", "((((((y))))))", "k<1?0",
+        "y=w*3?100;0", "y=p*3?97;2", "k=0&(y=w*3)?90;k=0?1;20", "y<w|k=2&p>4?66;33", "1?2;3",
+    };
+    private static final String BYTES = "ykwp0123456789+-*/%<=>!&|()?;()yk1";
+
+    private final Random random;
+    private final ChairOld real = new ChairOld();
+    private final PlainModel plain = new PlainModel();
+    private final List<String> told = new ArrayList<>();
+    private int wrong = 0;
+
+    private RandomRunsTest(long seed) {
+        random = new Random(seed);
+    }
+
+    public static void main(String[] args) throws Exception {
+        int runs = args.length > 0 ? Integer.parseInt(args[0]) : 150;
+        long first = args.length > 1 ? Long.parseLong(args[1]) : 1;
+        List<Method> methods = new ArrayList<>();
+        for (Method m : ChairOld.class.getDeclaredMethods()) {
+            if (java.lang.reflect.Modifier.isPublic(m.getModifiers())) {
+                methods.add(m);
+            }
+        }
+        methods.sort(Comparator.comparing(Method::getName));
+        int wrong = methods.size() == 39 ? 0 : 1;
+        for (int run = 0; run < runs && wrong < 5; run++) {
+            wrong += new RandomRunsTest(first + run).run(methods);
+        }
+        System.out.println(wrong == 0 ? "all runs agree" : wrong + " runs do not agree");
+        if (wrong != 0) {
+            System.exit(1);
+        }
+    }
+
+    private int run(List<Method> methods) throws Exception {
+        int ways = random.nextInt(3);
+        // Slow calls of the plain model come seldom; the first calls set the stage.
+        for (int i = 0; i < 512 && wrong == 0; i++) {
+            int pick = random.nextInt(100);
+            if (ways != 0 && (i < 12 || pick < 4)) {
+                stage(i, methods);
+            } else {
+                Method m = methods.get(random.nextInt(methods.size()));
+                boolean slow = m.getName().equals("plan") || m.getName().equals("cheapest");
+                if (!slow || random.nextInt(12) == 0) {
+                    call(m, argumentsOf(m));
+                }
+            }
+        }
+        return wrong;
+    }
+
+    private static Method byName(List<Method> methods, String name) {
+        return methods.stream().filter(m -> m.getName().equals(name)).findFirst().orElseThrow();
+    }
+
+    private void stage(int i, List<Method> methods) throws Exception {
+        if (i % 2 == 0) {
+            String text = random.nextInt(4) == 0 ? scribble() : LAWS[random.nextInt(LAWS.length)];
+            for (int b = 0; b < text.length() && wrong == 0; b++) {
+                call(byName(methods, "feed"), (int) text.charAt(b));
+            }
+            call(byName(methods, "law"), random.nextInt(6));
+        } else if (random.nextBoolean()) {
+            call(byName(methods, "part"), random.nextInt(100));
+        } else {
+            call(byName(methods, "find"), random.nextInt(8) * 10 + random.nextInt(6), random.nextInt(3));
+        }
+    }
+
+    private String scribble() {
+        StringBuilder text = new StringBuilder(LAWS[random.nextInt(LAWS.length)]);
+        for (int n = random.nextInt(3); n >= 0 && text.length() > 0; n--) {
+            char c = BYTES.charAt(random.nextInt(BYTES.length()));
+            int at = random.nextInt(text.length());
+            switch (random.nextInt(3)) {
+                case 0 -> text.insert(at, c);
+                case 1 -> text.setCharAt(at, c);
+                default -> text.deleteCharAt(at);
+            }
+        }
+        return text.toString();
+    }
+
+    private Object[] argumentsOf(Method m) {
+        Object[] arguments = new Object[m.getParameterCount()];
+        for (int i = 0; i < arguments.length; i++) {
+            int v = argument(m.getName(), i);
+            boolean isLong = m.getParameterTypes()[i] == long.class;
+            arguments[i] = isLong ? (Object) (random.nextInt(3) == 0 ? random.nextLong() : (long) (v % 12)) : (Object) v;
+        }
+        return arguments;
+    }
+
+    private int argument(String name, int place) {
+        int any = random.nextInt(40);
+        if (any == 0) {
+            int[] edges = {Integer.MIN_VALUE, Integer.MAX_VALUE, -1, -10, 1 << 30, -1000, 2147483640};
+            return edges[random.nextInt(edges.length)];
+        }
+        if (any == 1) {
+            return random.nextInt();
+        }
+        switch (name + place) {
+            case "part0": return random.nextInt(102) - 1;
+            case "mend2": case "cheapest1": return random.nextInt(3) == 0 ? random.nextInt(102) - 1 : random.nextInt(10);
+            case "find0": case "number0": case "likely0": case "percent0": case "when0": return random.nextInt(72) - 1;
+            case "of1": return random.nextInt(34) - 1;
+            case "feed0": return random.nextInt(5) == 0 ? random.nextInt(258) - 1 : BYTES.charAt(random.nextInt(BYTES.length()));
+            case "number1": return random.nextInt(6) * 100 + random.nextInt(31);
+            case "named1": case "believed1": case "spoils1": return random.nextInt(66) - 1;
+            case "plan1": return random.nextInt(57) - 1;
+            case "paper0": return random.nextInt(30) * 100 + random.nextInt(31);
+            case "house0": return random.nextInt(32) - 1;
+            case "drawn0": case "act2": return random.nextInt();
+            case "drawn1": return random.nextInt(33) - 1;
+            case "drawn2": return random.nextInt(8) * 1000 + random.nextInt(7) * 100 + random.nextInt(31);
+            case "row2": return random.nextInt(3) == 0 ? random.nextInt(64) - 2 : random.nextInt(12);
+            case "row1": return random.nextInt(2) == 0 ? 0 : random.nextInt(7) - 1;
+            case "trace0": return random.nextInt(16) - 1;
+            case "act0": case "keep1": return random.nextInt(14) - 1;
+            default: return random.nextInt(9) - 1;
+        }
+    }
+
+    private void call(Method m, Object... arguments) throws Exception {
+        StringBuilder text = new StringBuilder(m.getName()).append(java.util.Arrays.toString(arguments));
+        Object due = PlainModel.class.getMethod(m.getName(), m.getParameterTypes()).invoke(plain, arguments);
+        Object got = m.invoke(real, arguments);
+        told.add(text.append(" -> ").append(got).toString());
+        if (!due.equals(got)) {
+            wrong = 1;
+            told.subList(Math.max(0, told.size() - 60), told.size()).forEach(System.out::println);
+            System.out.println("due is " + due);
+        }
+    }
+}
