@@ -147,7 +147,8 @@ public final class ChairOld {
         long below = scale.weighFound(piece);
         long above = scale.sums[kind];
         long common = greatestDivisor(below, above);
-        if (below == 0 || common == 0) {
+        // Only where all is 0: then it is 0 by 1.
+        if (common == 0) {
             return part;
         }
         return part == 0 ? above / common : below / common;
@@ -235,7 +236,7 @@ public final class ChairOld {
         }
         int set = marks & ~piece.looked;
         long all = scale.fillWays(piece, piece.looked, piece.there, set);
-        return all == 0 ? NOT : scale.namedBy(set, all);
+        return scale.namedBy(set, all);
     }
 
     public int plan(int part, int m) {
@@ -840,7 +841,7 @@ public final class ChairOld {
         }
 
         /**
-         * NAMED of a set out of the ways of a greater one: number and 100 less it make 100, so both
+         * NAMED (NOT, if all is 0) of a set out of the ways of a greater one: number and 100 less it make 100, so both
          * what is above and what is below the line only grow by 100 for each mark beyond the set.
          */
         int namedBy(int set, long all) {

@@ -300,6 +300,7 @@ public final class PromiseTest {
         worth("5>4+4", 0);
         worth("(1<2)<3", 1);
         worth("k=3?77;5", 77);
+        worth("0|k?0|8", 1);
         worth("k=2?77;5", 5);
         worth("k=2?77", 0);
         worth("5;6", 5);
@@ -312,6 +313,7 @@ public final class PromiseTest {
         worth("2048*1024*1024/-1<0", 1);
         worth("2048*1024*1024%-1+6", 6);
         worth("((((((y))))))", 12);
+        worth("((((((0))))))?1;((((((1))))))?((((((y))))))", 12);
         worth("!!!---y", 0);
         worth("------y+(!(-(!y)))", 13);
         worth("(((((1)))))+((((((2))))))", 3);
@@ -381,6 +383,9 @@ public final class PromiseTest {
         fault("y+((((((1+!y", 10);
         fault("(!(-(!(y", 6);
         fault("y?1;k+", 6);
+        fault("1?(((((((1", 8);
+        fault("1?((((((1", 9);
+        fault("1;(((((((1", 8);
         fault("y\u00e9", 1);
     }
 
@@ -499,6 +504,12 @@ public final class PromiseTest {
         x.find(1, 2);
         due("when(1, 2)", x.when(1, 2), 29);
         due("when(2, 0)", x.when(2, 0), -2);
+        due("law", law(x, 1, "y=0"), 1);
+        x.find(1, 1);
+        due("only time 0", x.when(0, 2), 0);
+        due("law", law(x, 1, "y=29"), 1);
+        due("only time 29", x.when(0, 1), 29);
+        due("only time 29", x.when(0, 0), 29);
         due("law", law(x, 1, "y=3|y=7"), 1);
         x.find(1, 1);
         due("when(5, 0)", x.when(5, 0), 3);
@@ -570,6 +581,19 @@ public final class PromiseTest {
         due("law", law(x, 0, "y=w+(w=2)?100;1"), 1);
         // WHEN 1, 1, 3, 9, 0: 3 is within 2 of 1.
         due("odd()", x.odd(), 8);
+        due("law", law(x, 0, "y=w*w?100;1"), 1);
+        x.find(30, 0);
+        // WHEN 1, 1, 4, 0, 0: the middle one is 1; 4 is not within 2.
+        due("odd()", x.odd(), 4);
+        ChairOld y = withParts(20, 50, 80);
+        due("law", law(y, 0, "y=w?100;1"), 1);
+        for (int part = 0; part < 3; part++) {
+            y.find(part * 10, 1);
+        }
+        // WHEN 2, 5, 8: only the middle one is in keeping.
+        due("odd()", y.odd(), 1 + 4);
+        due("law", law(y, 0, "y=w-2?100;1"), 1);
+        due("WHEN 0, 3, 6", y.odd(), 1 + 4);
         noBelief(x);
         due("nothing is true", x.odd(), 0);
         due("no parts", new ChairOld().odd(), 0);
@@ -795,6 +819,18 @@ public final class PromiseTest {
         within.paper(1212, 1);
         within.paper(1020, 2);
         due("one within the other", within.papers(0), 1);
+        for (int late : new int[] {510, 1520, 1212, 520}) {
+            ChairOld two = new ChairOld();
+            two.paper(1015, 1);
+            due("another house", two.paper(late, 2), 1);
+            due("one time in common is enough", two.papers(0), 1);
+        }
+        for (int late : new int[] {509, 1620}) {
+            ChairOld two = new ChairOld();
+            two.paper(1015, 1);
+            two.paper(late, 2);
+            due("no time in common", two.papers(0), -2);
+        }
     }
 
     private static void house() {
@@ -914,6 +950,16 @@ public final class PromiseTest {
         }
         due("none", x.undo(), -5);
         due("of(0, 21)", x.of(0, 21), 5);
+        ChairOld y = new ChairOld();
+        for (int i = 0; i < 42; i++) {
+            y.mend(i % 6, 1, 50 + i);
+        }
+        for (int i = 41; i >= 2; i--) {
+            due("undo()", y.undo(), i - 2);
+            due("of(i % 6, 21)", y.of(i % 6, 21), i < 6 ? 0 : 44 + i);
+        }
+        due("of(0, 21)", y.of(0, 21), 50);
+        due("of(1, 21)", y.of(1, 21), 51);
     }
 
     private static void redo() {
@@ -948,8 +994,8 @@ public final class PromiseTest {
         }
         for (int i = 39; i >= 0; i--) {
             due("redo()", x.redo(), i);
+            due("of(5, 21)", x.of(5, 21), 60 - i);
         }
-        due("of(5, 21)", x.of(5, 21), 60);
         due("count(4)", x.count(4), 40);
     }
 
@@ -1059,6 +1105,7 @@ public final class PromiseTest {
         ChairOld x = new ChairOld();
         due("row(0, 0, 60)", x.row(0, 0, 60), 1);
         due("put(0, 59, 7)", x.put(0, 59, 7), 1);
+        due("element(0, 59)", x.element(0, 59), 7);
         due("row(0, 4, 60)", x.row(0, 4, 60), 1);
         due("0 at first", x.element(0, 59), 0);
         due("row(0, 3, 0)", x.row(0, 3, 0), 1);
