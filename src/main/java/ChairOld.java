@@ -965,8 +965,13 @@ public final class ChairOld {
             }
             int end = Math.min(mark * ROOM + sizes[mark], code.length);
             int top = 0;
+            boolean skips = false;
             for (int at = mark * ROOM; at < end; at++) {
                 int sign = code[at];
+                if (skips) {
+                    skips = sign != -';';
+                    continue;
+                }
                 int right = within(top, 1, stack.length) ? stack[top - 1] : 0;
                 int left = within(top, 2, stack.length) ? stack[top - 2] : 0;
                 int used = 2;
@@ -974,7 +979,7 @@ public final class ChairOld {
                 switch (sign) {
                     case -';': return right;
                     case -'?':
-                        at = right == 0 ? endOfLine(at, end) : at;
+                        skips = right == 0;
                         top = 0;
                         continue;
                     case -'y': used = 0; value = time; break;
@@ -995,15 +1000,6 @@ public final class ChairOld {
             }
             // Nothing is left where no line counts.
             return within(top, 1, stack.length) ? stack[top - 1] : 0;
-        }
-
-        private int endOfLine(int from, int end) {
-            for (int at = from; at < end && at < code.length; at++) {
-                if (code[at] == -';') {
-                    return at;
-                }
-            }
-            return end;
         }
 
         private static int joined(int sign, int left, int right) {

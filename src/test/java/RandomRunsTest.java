@@ -104,8 +104,9 @@ public final class RandomRunsTest {
         return arguments;
     }
 
+    /** Mostly what the document allows, now and then its edges or anything. */
     private int argument(String name, int place) {
-        int any = random.nextInt(40);
+        int any = random.nextInt(60);
         if (any == 0) {
             int[] edges = {Integer.MIN_VALUE, Integer.MAX_VALUE, -1, -10, 1 << 30, -1000, 2147483640};
             return edges[random.nextInt(edges.length)];
@@ -113,26 +114,43 @@ public final class RandomRunsTest {
         if (any == 1) {
             return random.nextInt();
         }
-        switch (name + place) {
-            case "part0": return random.nextInt(102) - 1;
-            case "mend2": case "cheapest1": return random.nextInt(3) == 0 ? random.nextInt(102) - 1 : random.nextInt(10);
-            case "find0": case "number0": case "likely0": case "percent0": case "when0": return random.nextInt(72) - 1;
-            case "of1": return random.nextInt(34) - 1;
-            case "feed0": return random.nextInt(5) == 0 ? random.nextInt(258) - 1 : BYTES.charAt(random.nextInt(BYTES.length()));
-            case "number1": return random.nextInt(6) * 100 + random.nextInt(31);
-            case "named1": case "believed1": case "spoils1": return random.nextInt(66) - 1;
-            case "plan1": return random.nextInt(57) - 1;
-            case "paper0": return random.nextInt(30) * 100 + random.nextInt(31);
-            case "house0": return random.nextInt(32) - 1;
-            case "drawn0": case "act2": return random.nextInt();
-            case "drawn1": return random.nextInt(33) - 1;
-            case "drawn2": return random.nextInt(8) * 1000 + random.nextInt(7) * 100 + random.nextInt(31);
-            case "row2": return random.nextInt(3) == 0 ? random.nextInt(64) - 2 : random.nextInt(12);
-            case "row1": return random.nextInt(2) == 0 ? 0 : random.nextInt(7) - 1;
-            case "trace0": return random.nextInt(16) - 1;
-            case "act0": case "keep1": return random.nextInt(14) - 1;
-            default: return random.nextInt(9) - 1;
-        }
+        return switch (name + place) {
+            case "find0", "number0", "likely0", "percent0", "when0" -> drawn(0, 6) * 10 + drawn(0, 5);
+            case "number1" -> drawn(0, 5) * 100 + drawn(0, 29);
+            case "drawn2" -> drawn(0, 6) * 1000 + drawn(0, 5) * 100 + drawn(0, 29);
+            case "paper0" -> {
+                int from = drawn(0, 29);
+                yield from * 100 + Math.min(30, from + random.nextInt(8));
+            }
+            case "feed0" -> random.nextInt(5) == 0 ? drawn(0, 255) : BYTES.charAt(random.nextInt(BYTES.length()));
+            case "of1" -> new int[] {0, 1, 10, 11, 12, 13, 14, 15, 20, 21, 30, 31, drawn(0, 40)}[random.nextInt(13)];
+            case "drawn0", "act2" -> random.nextBoolean() ? random.nextInt() : drawn(-3, 9);
+            case "part0" -> drawn(0, 99);
+            case "mend2" -> random.nextInt(3) == 0 ? drawn(0, 99) : drawn(1, 9);
+            case "cheapest1" -> random.nextInt(3) == 0 ? drawn(0, 100) : drawn(5, 30);
+            case "mend1", "act1" -> drawn(0, 3);
+            case "likely1", "whole0", "papers0", "cheapest2" -> drawn(0, 1);
+            case "find1", "when1" -> drawn(0, 2);
+            case "mend0", "law0", "parts1" -> drawn(0, 5);
+            case "named1", "believed1", "spoils1" -> drawn(0, 63);
+            case "plan1" -> random.nextBoolean() ? drawn(0, 54) : drawn(0, 8);
+            case "house0" -> drawn(0, 29);
+            case "drawn1" -> drawn(1, 30);
+            case "row2" -> random.nextInt(5) == 0 ? drawn(0, 60) : drawn(5, 16);
+            case "row1" -> random.nextInt(3) != 0 ? 0 : drawn(0, 4);
+            case "shift1", "shift3", "shift4", "put1", "element1" -> drawn(0, 5);
+            case "parts0", "put0", "element0", "shift0", "shift2", "row0" -> drawn(0, 2);
+            case "taken0", "keep0" -> drawn(2, 4);
+            case "trace0" -> drawn(0, 5);
+            case "taken1", "body0" -> drawn(0, 7);
+            case "act0", "keep1" -> drawn(-1, 8);
+            default -> drawn(0, 6);
+        };
+    }
+
+    private int drawn(int least, int most) {
+        return random.nextInt(25) == 0 ? (random.nextBoolean() ? least - 1 : most + 1)
+            : least + random.nextInt(most - least + 1);
     }
 
     private void call(Method m, Object... arguments) throws Exception {
