@@ -194,13 +194,13 @@ public final class ChairOld {
 
     public int odd() {
         int trueParts = 0;
-        for (int i = 0; i < pieceCount; i++) {
+        for (int i = 0; i < pieceCount && i < whens.length; i++) {
             whens[i] = whenTrue(pieceAt(i));
             trueParts += whens[i] >= 0 ? 1 : 0;
         }
         int middle = valueAtRank(whens, pieceCount, (trueParts - 1) / 2);
         int bits = 0;
-        for (int i = 0; i < pieceCount; i++) {
+        for (int i = 0; i < pieceCount && i < whens.length; i++) {
             if (whens[i] >= 0 && Math.abs(whens[i] - middle) > 2) {
                 bits |= 1 << i;
             }
@@ -353,7 +353,7 @@ public final class ChairOld {
     }
 
     public int image() {
-        for (int i = 0; i < pieceCount; i++) {
+        for (int i = 0; i < pieceCount && i < MOST_PARTS; i++) {
             Piece piece = pieceAt(i);
             keptLooked[i] = piece == null ? 0 : piece.looked;
             keptThere[i] = piece == null ? 0 : piece.there;
@@ -367,7 +367,7 @@ public final class ChairOld {
         if (!hasImage) {
             return STATE;
         }
-        for (int i = 0; i < pieceCount; i++) {
+        for (int i = 0; i < pieceCount && i < MOST_PARTS; i++) {
             Piece piece = pieceAt(i);
             if (piece != null) {
                 piece.looked = i < keptCount ? keptLooked[i] : 0;

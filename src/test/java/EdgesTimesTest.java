@@ -7,6 +7,16 @@ public final class EdgesTimesTest {
         Edges.run(EdgesTimesTest.class);
     }
 
+    /** What mend() tells and of() is asked for: first at first, then from least to most. */
+    private static void toldWithin(int told, int asked, int first, int least, int most) {
+        String mend = "mend(5, " + told + ", ";
+        String of = "of(5, " + asked + ")";
+        Run run = new Run().each(first, "of(_, " + asked + ")", 0, 1, 2, 3, 4, 5);
+        run.refused(-1, mend + "_)", least - 1, most + 1, MIN, MAX);
+        run.due(first, mend + most + ")").due(most, of).refused(-1, mend + "_)", least - 1, most + 1);
+        run.due(most, mend + least + ")").due(least, of).refused(-1, mend + "_)", least - 1, most + 1);
+    }
+
     @Holds(promise = Holds.WHAT_IT_IS, says = "An object is used for at most 512 calls after it has been made")
     static void theCall512IsAnsweredAsAnyOther() {
         Run run = Edges.withParts(12);
@@ -43,18 +53,12 @@ public final class EdgesTimesTest {
 
     @Holds(promise = Holds.TERMS, says = "each has a BELIEF (0 .. 9; 1 at first)")
     static void beliefIs1AtFirstThen0To9() {
-        Run run = new Run();
-        run.each(1, "of(_, 20)", 0, 1, 2, 3, 4, 5);
-        run.due(1, "mend(5, 0, 9)").refused(-1, "mend(5, 0, _)", -1, 10, MIN, MAX).due(9, "of(5, 20)");
-        run.due(9, "mend(5, 0, 0)").due(0, "of(5, 20)").refused(-1, "mend(5, 0, _)", -1, 10);
+        toldWithin(0, 20, 1, 0, 9);
     }
 
     @Holds(promise = Holds.TERMS, says = "and a VALUE (0 .. 99; 0 at first).")
     static void valueIs0AtFirstThen0To99() {
-        Run run = new Run();
-        run.each(0, "of(_, 21)", 0, 1, 2, 3, 4, 5);
-        run.due(0, "mend(5, 1, 99)").refused(-1, "mend(5, 1, _)", -1, 100, MIN, MAX).due(99, "of(5, 21)");
-        run.due(99, "mend(5, 1, 0)").due(0, "of(5, 21)").refused(-1, "mend(5, 1, _)", -1, 100);
+        toldWithin(1, 21, 0, 0, 99);
     }
 
     @Holds(promise = Holds.TERMS, says = "PARTS 0 .. 7, as they come:")
@@ -88,18 +92,12 @@ public final class EdgesTimesTest {
 
     @Holds(promise = Holds.TERMS, says = "each takes MINUTES (1 .. 9; 1 at first) to look for,")
     static void minutesAre1AtFirstThen1To9() {
-        Run run = new Run();
-        run.each(1, "of(_, 30)", 0, 1, 2, 3, 4, 5);
-        run.due(1, "mend(5, 2, 9)").refused(-1, "mend(5, 2, _)", 0, 10, MIN, MAX).due(9, "of(5, 30)");
-        run.due(9, "mend(5, 2, 1)").due(1, "of(5, 30)").refused(-1, "mend(5, 2, _)", -1, 0, 10);
+        toldWithin(2, 30, 1, 1, 9);
     }
 
     @Holds(promise = Holds.TERMS, says = "and COSTS a maker (0 .. 99; 10 at first).")
     static void costIs10AtFirstThen0To99() {
-        Run run = new Run();
-        run.each(10, "of(_, 31)", 0, 1, 2, 3, 4, 5);
-        run.due(10, "mend(5, 3, 99)").refused(-1, "mend(5, 3, _)", -1, 100, MIN, MAX).due(99, "of(5, 31)");
-        run.due(99, "mend(5, 3, 0)").due(0, "of(5, 31)").refused(-1, "mend(5, 3, _)", -1, 100);
+        toldWithin(3, 31, 10, 0, 99);
     }
 
     @Holds(promise = Holds.TERMS, says = "FOUND: of each PART and MARK: 0 not looked for, 1 there, 2 not there.")

@@ -31,6 +31,8 @@ public final class LanguageTest {
         "Object", "equals", "hashCode", "toString", "System.out", "System.exit", "Random", "Exact", "Thread",
         "currentTimeMillis", "nanoTime", "NaN", "record", "package",
     };
+    private static final Set<String> LIBRARY = Set.of("Math.max", "Math.min", "Math.abs", "Integer.bitCount",
+        "System.arraycopy", "Arrays.fill");
     private static int wrong = 0;
 
     private static void check(boolean holds, String what) {
@@ -114,6 +116,12 @@ public final class LanguageTest {
         Matcher imports = Pattern.compile("import ([^;]*);").matcher(code);
         while (imports.find()) {
             check(imports.group(1).equals("java.util.Arrays"), "rule 4: " + imports.group(1));
+        }
+        Matcher statics = Pattern.compile("\\b([A-Z]\\w*)\\.(\\w+)\\(").matcher(code);
+        while (statics.find()) {
+            String called = statics.group(1) + "." + statics.group(2);
+            boolean isOwn = code.contains("class " + statics.group(1) + " ");
+            check(isOwn || LIBRARY.contains(called), "rule 4: " + called);
         }
         longMethods(text.split("\n"));
     }
