@@ -960,7 +960,7 @@ public final class ChairOld {
         }
 
         int worth(int mark, int kind, int time, int wood, int place) {
-            if (!isMark(mark) || sizes[mark] == 0) {
+            if (mark < 0 || mark >= sizes.length || sizes[mark] == 0) {
                 return WITHOUT_TEXT;
             }
             int end = Math.min(mark * ROOM + sizes[mark], code.length);

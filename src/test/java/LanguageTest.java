@@ -12,7 +12,7 @@ import java.util.TreeSet;
 import java.util.regex.Matcher;
 import java.util.regex.Pattern;
 
-/** The face as the document has it, and what of LANGUAGE.md a test can see. */
+/** The face as the document has it (rule 1), and what LANGUAGE.md says of the text itself; RulesTest has the rest. */
 public final class LanguageTest {
     private static final String[] FACE = {
         "int part(int)", "int parts(int,int,int)", "int mend(int,int,int)", "int find(int,int)", "int of(int,int)",
@@ -31,8 +31,6 @@ public final class LanguageTest {
         "Object", "equals", "hashCode", "toString", "System.out", "System.exit", "Random", "Exact", "Thread",
         "currentTimeMillis", "nanoTime", "NaN", "record", "package",
     };
-    private static final Set<String> LIBRARY = Set.of("Math.max", "Math.min", "Math.abs", "Integer.bitCount",
-        "System.arraycopy", "Arrays.fill");
     private static int wrong = 0;
 
     private static void check(boolean holds, String what) {
@@ -44,7 +42,6 @@ public final class LanguageTest {
 
     public static void main(String[] args) throws Exception {
         face();
-        classes();
         source(Files.readString(Path.of("src/main/java/ChairOld.java")));
         System.out.println(wrong == 0 ? "the rules hold" : wrong + " rules do not hold");
         if (wrong != 0) {
@@ -85,25 +82,6 @@ public final class LanguageTest {
         check(Modifier.isFinal(ChairOld.class.getModifiers()), "rule 1: final");
     }
 
-    private static void classes() {
-        List<Class<?>> all = new ArrayList<>(Arrays.asList(ChairOld.class.getDeclaredClasses()));
-        check(all.size() <= 11, "rule 11: classes");
-        all.forEach(c -> check(Modifier.isStatic(c.getModifiers()), "rule 2: " + c));
-        all.add(ChairOld.class);
-        for (Class<?> c : all) {
-            int fields = 0;
-            for (Field f : c.getDeclaredFields()) {
-                boolean isStatic = Modifier.isStatic(f.getModifiers());
-                fields += isStatic ? 0 : 1;
-                check(!isStatic || Modifier.isFinal(f.getModifiers()), "rule 5: " + f);
-            }
-            check(fields <= 20, "rule 11: fields of " + c);
-            for (Method m : c.getDeclaredMethods()) {
-                check(m.getParameterCount() <= 7, "rule 11: " + m);
-            }
-        }
-    }
-
     private static void source(String text) {
         String code = text.replaceAll("(?s)/\\*.*?\\*/", "").replaceAll("//[^\n]*", "");
         for (String word : FORBIDDEN) {
@@ -116,27 +94,6 @@ public final class LanguageTest {
         Matcher imports = Pattern.compile("import ([^;]*);").matcher(code);
         while (imports.find()) {
             check(imports.group(1).equals("java.util.Arrays"), "rule 4: " + imports.group(1));
-        }
-        Matcher statics = Pattern.compile("\\b([A-Z]\\w*)\\.(\\w+)\\(").matcher(code);
-        while (statics.find()) {
-            String called = statics.group(1) + "." + statics.group(2);
-            boolean isOwn = code.contains("class " + statics.group(1) + " ");
-            check(isOwn || LIBRARY.contains(called), "rule 4: " + called);
-        }
-        longMethods(text.split("\n"));
-    }
-
-    /** A method starts where a line of its depth ends with "{" and ends where that depth closes. */
-    private static void longMethods(String[] lines) {
-        int start = 0;
-        for (int i = 0; i < lines.length; i++) {
-            if (lines[i].matches(" {4}( {4})?[a-z][^=]*\\) \\{")) {
-                start = i;
-            }
-            if (lines[i].matches(" {4}( {4})?\\}")) {
-                check(start == 0 || i - start < 60, "rule 11: the method at line " + (start + 1));
-                start = 0;
-            }
         }
     }
 }
